@@ -88,12 +88,12 @@ public final class PlansTest {
         due(43, "level(1): of like ones the first by levels", x.level(1), 0);
         due(43, "level(2)", x.level(2), 4);
         GroundWaters y = pond();
-        y.well(0, 80, 1);
         y.well(0, 40, 2);
-        put(y, "(q0=0&q1=40)|(q0=80&q1=0)");
+        y.well(0, 80, 1);
+        put(y, "(q0=0&q1=80)|(q0=40&q1=0)");
         due(42, "worth()", y.worth(), 80);
-        due(43, "level(0): of like ones the least rates", y.level(0), 0);
-        due(43, "level(1)", y.level(1), 4);
+        due(43, "level(0): of like ones the least rates, though not the first", y.level(0), 4);
+        due(43, "level(1)", y.level(1), 0);
         GroundWaters z = pond();
         z.well(0, 40, 0);
         z.well(0, 40, 0);

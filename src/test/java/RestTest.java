@@ -8,6 +8,7 @@ public final class RestTest {
         patternsOfTwo();
         heads();
         flows();
+        landsThatGrow();
         drySaltThrough();
         refusals();
         greatNumbers();
@@ -118,6 +119,29 @@ public final class RestTest {
         due(15, "gives(0) of nothing", x.gives(0), 0);
         due(16, "takes(0) at its level", x.takes(0), 0);
         due(11, "pattern() at its level", x.pattern(), 1);
+    }
+
+    /** Each thing that comes counts at once, though the rest was asked for before. */
+    private static void landsThatGrow() {
+        GroundWaters x = new GroundWaters();
+        x.cell(0, 6, 1);
+        x.river(0, 10, 0, 1);
+        due(13, "milli(0)", x.milli(0), 16000);
+        x.cell(0, 0, 1);
+        due(13, "milli(0) beside a cell that nothing holds", x.milli(0), STATE);
+        x.link(0, 1, 1);
+        due(13, "milli(1) with a link", x.milli(1), 16000);
+        x.river(1, 10, 0, 1);
+        due(13, "milli(0) with a river", x.milli(0), 14000);
+        due(13, "milli(1) with a river", x.milli(1), 12000);
+        x.link(1, 0, 1);
+        due(13, "milli(0) with a second link", x.milli(0), 13600);
+        x.drain(1, 10, 3);
+        // (16 - h0) = 2 (h0 - h1), 2 (h0 - h1) = 4 (h1 - 10)
+        due(12, "head(0, true) with a drain", x.head(0, true), 88);
+        due(12, "head(0, false) with a drain", x.head(0, false), 7);
+        x.ease(1, 3);
+        due(13, "milli(0) with another ease", x.milli(0), 12000);
     }
 
     private static void drySaltThrough() {

@@ -10,6 +10,9 @@ public final class WaysTest {
         stillWater();
         dryCell();
         zones();
+        zonesWithBranches();
+        secondDrainAndWell();
+        smallestFlow();
         spillsLeftOver();
         refusals();
         CHECK.end();
@@ -164,6 +167,54 @@ public final class WaysTest {
         x.rain(0, 0);
         due(24, "zone(0): now the river feeds it, and cells 0, 1 stand still", x.zone(0), 12);
         due(24, "zone(1)", x.zone(1), 8);
+    }
+
+    private static void zonesWithBranches() {
+        GroundWaters x = new GroundWaters();
+        x.cell(0, 0, 1);
+        x.cell(0, 8, 1);
+        x.cell(0, 9, 1);
+        x.cell(0, 0, 1);
+        x.link(1, 0, 1);
+        x.link(2, 1, 1);
+        x.link(2, 3, 1);
+        x.river(0, 10, 0, 1);
+        x.river(3, 10, 0, 1);
+        x.well(3, 1, 1);
+        x.rate(0, 1);
+        due(24, "zone(0): water of cells 0, 1 goes elsewhere", x.zone(0), 12);
+        x.cell(0, 0, 1);
+        x.link(3, 4, 1);
+        due(24, "zone(0): a cell beside it stands still", x.zone(0), 12);
+    }
+
+    private static void secondDrainAndWell() {
+        GroundWaters x = new GroundWaters();
+        x.cell(0, 20, 1);
+        x.drain(0, 50, 1);
+        x.drain(0, 10, 2);
+        x.well(0, 9, 0);
+        x.well(0, 9, 0);
+        x.rate(1, 8);
+        // 12 go by drain 1, 8 by well 1
+        due(21, "end(0)", x.end(0), 201);
+        due(25, "spill(0, 201)", x.spill(0, 201), 600000);
+        due(25, "spill(0, 301)", x.spill(0, 301), 400000);
+        due(25, "spill(0, 200)", x.spill(0, 200), 0);
+        due(25, "spill(0, 300)", x.spill(0, 300), 0);
+        x.rain(0, 15);
+        due(21, "end(0)", x.end(0), 301);
+        due(24, "zone(1)", x.zone(1), 1);
+    }
+
+    private static void smallestFlow() {
+        GroundWaters x = new GroundWaters();
+        x.cell(0, 1, 1);
+        x.river(0, 4, 0, 1);
+        due(21, "end(0)", x.end(0), 100);
+        due(22, "time(0, true): 5 by 1", x.time(0, true), 5);
+        due(23, "wayTime(0)", x.wayTime(0), 5000);
+        due(25, "spill(0, 100)", x.spill(0, 100), 1000000);
     }
 
     private static void spillsLeftOver() {

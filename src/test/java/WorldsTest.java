@@ -122,6 +122,10 @@ public final class WorldsTest {
         due(33, "left() with a rest", x.left(), 1);
         due(34, "inWorld(0, 1)", x.inWorld(0, 1), 4500);
         due(35, "next(): of like ones the least cell", x.next(), 0);
+        due(36, "alike(0) of one world", x.alike(0), 1);
+        due(32, "see(0, 4000, 0)", x.see(0, 4000, 0), 1);
+        due(48, "count(7)", x.count(7), 1);
+        due(33, "left()", x.left(), 1);
     }
 
     private static void refusals() {
