@@ -21,6 +21,7 @@ public final class EdgesPermitTest {
         brackets();
         nothingElse();
         theFirstFaultOfSeveral();
+        faultsOfTextsInTurn();
         permitsOfTwoHundredSigns();
         comparesAtTheNumber();
         numbersAtTheirEdges();
@@ -295,6 +296,31 @@ public final class EdgesPermitTest {
         fault("h0<1& &", 5);
     }
 
+    /** A text is read by itself, whatever was read before it. */
+    private static void faultsOfTextsInTurn() {
+        GroundWaters x = land();
+        Lands.write(x, "((q0=1234567");
+        due(39, "fault() of open brackets", x.fault(), 12);
+        due(39, "fault() of open brackets, asked again", x.fault(), 12);
+        Lands.write(x, "q0=0");
+        due(39, "fault() behind them", x.fault(), NONE);
+        due(40, "holds() behind them", x.holds(), 1);
+        Lands.write(x, "q0=0)");
+        due(39, "fault(): no bracket is open any more", x.fault(), 4);
+        Lands.write(x, "!(q0=0)&!");
+        due(39, "fault() of a text that is cut off", x.fault(), 9);
+        Lands.write(x, "(q0=0)");
+        due(40, "holds() behind it", x.holds(), 1);
+        due(40, "holds() asked again", x.holds(), 1);
+        Lands.write(x, "q0=1");
+        Lands.write(x, "q0=");
+        due(39, "fault() at the end of a shorter text", x.fault(), 3);
+        Lands.write(x, "q0=0000001");
+        due(40, "holds() of a longer number", x.holds(), 0);
+        Lands.write(x, "q0=0");
+        due(40, "holds() of a shorter number", x.holds(), 1);
+    }
+
     private static void permitsOfTwoHundredSigns() {
         String deep = "(".repeat(98) + "q0=0" + ")".repeat(98);
         fault(deep, NONE);
@@ -369,6 +395,8 @@ public final class EdgesPermitTest {
         holds("f1=-572", 1);
         holds("q0=0", 1);
         holds("d1<0|d1>0|g1<0|g1>0", 0);
+        holds("h0=19142&q0=0&d0=857&g0=857&f0=285&h1=18857", 1);
+        holds("h0=0|q0=1|d0=0|g0=0|f0=0|h1=0", 0);
     }
 
     /** T and F stand for an asking that holds and one that does not. */

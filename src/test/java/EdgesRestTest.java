@@ -22,6 +22,7 @@ public final class EdgesRestTest {
         milliNotAbove();
         greatestHead();
         leastHead();
+        sidesBeyondAnInt();
         flowOfStillWater();
         flowBack();
         givesAtTheStage();
@@ -312,6 +313,32 @@ public final class EdgesRestTest {
         due(17, "dry(5)", x.dry(5), 1);
         due(18, "salt(5)", x.salt(5), 59400000);
         due(19, "through(true)", x.through(true), 297);
+    }
+
+    /** Heads and what goes through are told as longs: their sides do not wrap around. */
+    private static void sidesBeyondAnInt() {
+        GroundWaters x = new GroundWaters();
+        int[] rains = {18, 50, 21, 91, 61, 35};
+        for (int rain : rains) x.cell(0, rain, 1);
+        int[][] links = {{1, 0, 9}, {2, 0, 9}, {3, 0, 8}, {4, 0, 9}, {5, 1, 7}, {2, 5, 7}, {1, 2, 8}, {5, 3, 9}, {1, 4, 8}, {3, 2, 9}, {4, 3, 9}, {0, 5, 7}};
+        for (int[] l : links) x.link(l[0], l[1], l[2]);
+        x.river(3, 971, 68, 9);
+        x.river(1, 974, 65, 9);
+        x.river(2, 955, 84, 8);
+        x.drain(0, 963, 9);
+        x.drain(4, 937, 9);
+        // worked out by fractions without bound
+        due(11, "pattern()", x.pattern(), 31);
+        long[] above = {168080204782L, 336968379667L, 1344208590109L, 1348089401161L, 1338168597435L, 336988074505L};
+        long[] below = {173921789, 347843578, 1391374312, 1391374312, 1391374312, 347843578};
+        for (int c = 0; c < 6; c++) {
+            due(12, "head(" + c + ", true) beyond an int", x.head(c, true), above[c]);
+            due(12, "head(" + c + ", false)", x.head(c, false), below[c]);
+        }
+        due(13, "milli(3)", x.milli(3), 968890);
+        due(18, "salt(3)", x.salt(3), -38755622);
+        due(19, "through(true) beyond an int", x.through(true), 476360363211L);
+        due(19, "through(false)", x.through(false), 1391374312);
     }
 
     private static void flowOfStillWater() {

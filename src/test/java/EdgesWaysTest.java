@@ -22,6 +22,8 @@ public final class EdgesWaysTest {
         timeAtTheBottom();
         timeWithoutOutlets();
         timeByAllOutlets();
+        timesBeyondAnInt();
+        aVeryLongTime();
         wayTimeIsCutCellByCell();
         wayTimeWithoutOutlets();
         wayTimeOfDryCells();
@@ -29,12 +31,15 @@ public final class EdgesWaysTest {
         zoneOfItsOwnCell();
         zoneByLesserOutlets();
         zoneOfAllCells();
+        zoneByLinksToldEitherWay();
+        zoneOfTheSmallestFlow();
         spillWithoutOutlets();
         spillThatNeverComesThere();
         spillIsCut();
         spillOfOneOutlet();
         spillCutTwice();
         spillByManyLinks();
+        allOutletsThatThereMayBe();
         endsThatAreNotThere();
         refusals();
         CHECK.covers(20, 25);
@@ -295,6 +300,48 @@ public final class EdgesWaysTest {
         due(22, "time(0, false)", x.time(0, false), 1);
     }
 
+    /** A time is told as longs: its sides do not wrap around. */
+    private static void timesBeyondAnInt() {
+        GroundWaters x = new GroundWaters();
+        int[][] cells = {{0, 91, 8}, {0, 34, 5}, {403, 70, 9}, {245, 79, 9}, {0, 8, 9}, {38, 85, 7}};
+        for (int[] c : cells) x.cell(c[0], c[1], c[2]);
+        int[][] links = {{1, 0, 9}, {2, 0, 9}, {3, 0, 9}, {4, 2, 9}, {5, 4, 7}, {2, 3, 9}, {4, 1, 9}, {2, 3, 7}, {5, 1, 9}, {0, 5, 9}, {2, 5, 9}, {1, 3, 9}};
+        for (int[] l : links) x.link(l[0], l[1], l[2]);
+        x.river(5, 961, 70, 8);
+        x.river(1, 998, 90, 9);
+        x.river(4, 911, 56, 9);
+        x.drain(2, 951, 8);
+        x.drain(1, 921, 8);
+        // worked out by fractions without bound
+        long[] above = {10624780696792L, 367722390995L, 767039468067L, 989828266221L, 145107242878L, 989401012103L};
+        long[] below = {125449490439L, 32980590428L, 26934439052L, 12621437272L, 5565746187L, 16937520293L};
+        for (int c = 0; c < 6; c++) {
+            due(22, "time(" + c + ", true) beyond an int", x.time(c, true), above[c]);
+            due(22, "time(" + c + ", false) beyond an int", x.time(c, false), below[c]);
+        }
+    }
+
+    /** Of rain of 1 nearly all leaves by three rivers, then nearly all by a drain; a 338th part comes to cell 2. */
+    private static void aVeryLongTime() {
+        GroundWaters x = new GroundWaters();
+        for (int c = 0; c < 3; c++) x.cell(0, c == 0 ? 1 : 0, 9);
+        x.link(0, 1, 1);
+        x.link(1, 2, 1);
+        for (int r = 0; r < 3; r++) x.river(0, 1000, 0, 9);
+        x.drain(1, 1000, 9);
+        x.drain(2, 1000, 9);
+        // heads 1000 and 109, 10, 1 by 3042
+        due(12, "head(2, true)", x.head(2, true), 3042001);
+        due(12, "head(2, false)", x.head(2, false), 3042);
+        due(16, "takes(1): 1/338", x.takes(1), 2);
+        due(22, "time(2, true): 9 times 1000 1/3042 by 1/338", x.time(2, true), 3042001);
+        due(22, "time(2, false)", x.time(2, false), 1);
+        due(23, "wayTime(2) beyond an int", x.wayTime(2), 3042001000L);
+        due(21, "end(2)", x.end(2), 201);
+        due(23, "wayTime(1): 3042010 by 11", x.wayTime(1), 276546363);
+        due(21, "end(1)", x.end(1), 200);
+    }
+
     /** Terms 2: "of THE WAY: MILLI of each CELL of it together". */
     private static void wayTimeIsCutCellByCell() {
         GroundWaters x = row(3);
@@ -304,6 +351,7 @@ public final class EdgesWaysTest {
         due(23, "wayTime(0)", x.wayTime(0), 333);
         due(23, "wayTime(1)", x.wayTime(1), 666);
         due(23, "wayTime(2): three times 333", x.wayTime(2), 999);
+        due(23, "wayTime(5) of all cells: six times 333", row(6).wayTime(5), 1998);
     }
 
     /** Terms 2: "(those that have OUTLETS)". */
@@ -370,6 +418,44 @@ public final class EdgesWaysTest {
         x.rate(1, 1);
         due(24, "zone(0) at the end of the way", x.zone(0), 63);
         due(24, "zone(1) at its head", x.zone(1), 32);
+    }
+
+    /** Cells 2 .. 0 in a row, water goes down; a well in each, and each link told from either side. */
+    private static void zoneByLinksToldEitherWay() {
+        for (int told = 0; told < 4; told++) {
+            GroundWaters x = new GroundWaters();
+            for (int c = 0; c < 4; c++) x.cell(0, c == 2 ? 20 : 0, 1);
+            x.link(told & 1, 1 - (told & 1), 2);
+            x.link(1 + (told >> 1), 2 - (told >> 1), 2);
+            // cell 3 takes water off from cell 1
+            x.link(told > 1 ? 3 : 1, told > 1 ? 1 : 3, 2);
+            x.river(0, 5, 0, 1);
+            x.river(3, 5, 0, 1);
+            for (int w = 0; w < 3; w++) {
+                x.well(w, 1, 0);
+                x.rate(w, 1);
+            }
+            due(24, "zone(0), links told as " + told, x.zone(0), 7);
+            due(24, "zone(1), links told as " + told, x.zone(1), 6);
+            due(24, "zone(2), links told as " + told, x.zone(2), 4);
+        }
+    }
+
+    /** All eases 1, a flow of 1: no flow inside can be told by a smaller number. */
+    private static void zoneOfTheSmallestFlow() {
+        for (int told = 0; told < 2; told++) {
+            GroundWaters x = new GroundWaters();
+            x.cell(0, 0, 1);
+            x.cell(0, 1, 1);
+            x.link(told, 1 - told, 1);
+            x.river(0, 5, 0, 1);
+            x.well(0, 1, 0);
+            x.rate(0, 1);
+            due(14, "flow(0)", x.flow(0), told == 1 ? 1000 : -1000);
+            due(24, "zone(0), the link told from cell " + told, x.zone(0), 3);
+            x.rain(1, 0);
+            due(24, "zone(0) with no flow", x.zone(0), 1);
+        }
     }
 
     /** Terms 2: "Without OUTLETS it stays." */
@@ -455,6 +541,29 @@ public final class EdgesWaysTest {
         due(20, "way(0, 1): by the one link", x.way(0, 1), 2);
         due(25, "spill(0, 100): seven times 90909", x.spill(0, 100), 636363);
         due(25, "spill(0, 101): 363636, and what is left over", x.spill(0, 101), 363637);
+    }
+
+    /** All but one, which takes what the links carry off: 12 links, 3 rivers, a drain and 3 wells, a 19th by each. */
+    private static void allOutletsThatThereMayBe() {
+        GroundWaters x = new GroundWaters();
+        x.cell(0, 19, 1);
+        x.cell(0, 0, 1);
+        for (int l = 0; l < 12; l++) x.link(l % 2, 1 - l % 2, 1);
+        for (int r = 0; r < 3; r++) x.river(0, 13, 0, 1);
+        x.drain(0, 13, 1);
+        x.drain(1, 10, 4);
+        for (int w = 0; w < 3; w++) {
+            x.well(0, 9, 0);
+            x.rate(w, 1);
+        }
+        due(13, "milli(0)", x.milli(0), 14000);
+        due(13, "milli(1)", x.milli(1), 13000);
+        due(21, "end(0): the first of 19 like outlets", x.end(0), 201);
+        due(22, "time(0, true): 14 by 19", x.time(0, true), 14);
+        due(22, "time(0, false)", x.time(0, false), 19);
+        for (int end : new int[] {100, 101, 102, 200, 300, 301, 302}) due(25, "spill(0, " + end + ")", x.spill(0, end), 52631);
+        due(25, "spill(0, 201): twelve times 52631, and 11 that are left over", x.spill(0, 201), 631583);
+        for (int w = 0; w < 3; w++) due(24, "zone(" + w + ")", x.zone(w), 1);
     }
 
     /** Promise 25: "UNKNOWN: cell, end". */
